@@ -608,9 +608,10 @@ public final class HeadHill {
         static final int READY = 9;
 
         final Text text;
-        // Every step and all that waits stems from a byte of its own on the TAPE, so neither row runs over.
+        // Every step stems from a byte of its own on the TAPE, so the row can't run over.
         final int[] steps = new int[MOST_BYTES];
-        final int[] waiting = new int[MOST_BYTES];
+        // At each depth an or, an and, and what opens the next one; at the last a SIGN, a + and a *.
+        final int[] waiting = new int[3 * MOST_DEPTH + 5];
         final int[] bounds = new int[2 * MOST_CLAUSES + 1];
         int length = 0;
         int piled = 0;
