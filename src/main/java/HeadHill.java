@@ -20,16 +20,16 @@ public final class HeadHill {
     private static final int LAST_NOTED_DAY = 60;
     private static final int NO_PURSE = -1000;
 
-    private final Text tape = new Text();
-    private final RuleReader reader = new RuleReader(tape);
+    private final RuleReader reader = new RuleReader();
+    private final Text tape = reader.text;
     private final Rule[] rules = new Rule[MOST_RULES];
     private int ruleCount = 0;
     private final Town town = new Town();
     private final Town[] images = new Town[MOST_IMAGES];
     private final Course course = new Course();
-    private final Future future = new Future(course);
-    private final Choices choices = new Choices(course);
-    private final Witness witness = new Witness(course);
+    private final Future future = new Future();
+    private final Choices choices = new Choices();
+    private final Witness witness = new Witness();
     private final Purses purses = new Purses();
 
     public HeadHill() {
@@ -57,7 +57,6 @@ public final class HeadHill {
 
     public int hill() {
         Hill told = new Hill();
-        tape.start();
         boolean fits = told.read(tape);
         tape.length = 0;
         if (!fits) {
@@ -71,7 +70,6 @@ public final class HeadHill {
         if (ruleCount >= MOST_RULES) {
             return NONE;
         }
-        tape.start();
         Rule told = reader.read();
         tape.length = 0;
         if (told == null) {
@@ -542,6 +540,7 @@ public final class HeadHill {
 
         /** Whether the text has no FAULT. */
         boolean read(Text text) {
+            text.start();
             boolean more = true;
             for (int n = 0; more && n <= MOST_CLAUSES; n++) {
                 readClause(text, n);
@@ -607,7 +606,8 @@ public final class HeadHill {
         static final int BEHIND_FACT = 8;
         static final int READY = 9;
 
-        final Text text;
+        // The TAPE; a HILL is read from it, too.
+        final Text text = new Text();
         // Every step stems from a byte of its own on the TAPE, so the row can't run over.
         final int[] steps = new int[MOST_BYTES];
         // At each depth an or, an and, and what opens the next one; at the last a SIGN, a + and a *.
@@ -621,12 +621,9 @@ public final class HeadHill {
         int clauses = 0;
         int state = CLAUSE;
 
-        RuleReader(Text text) {
-            this.text = text;
-        }
-
         /** The RULE on the TAPE, or null with the TAPE's FAULT. */
         Rule read() {
+            text.start();
             length = 0;
             piled = 0;
             depth = 0;
@@ -1254,15 +1251,11 @@ public final class HeadHill {
         static final int LEAST_HAD = -20;
         static final int MOST_HAD = 40;
 
-        final Course course;
+        final Course course = new Course();
         final Moment trial = new Moment();
         Town town = null;
         Rule rule = null;
         int x = 0;
-
-        Future(Course course) {
-            this.course = course;
-        }
 
         /** Only for a town with a HILL. */
         void begin(Town from, Rule by) {
@@ -1400,7 +1393,7 @@ public final class HeadHill {
     private static final class Choices {
         static final int MOST_DAYS = 3;
 
-        final Course course;
+        final Course course = new Course();
         final Moment first = new Moment();
         final Moment second = new Moment();
         final Moment third = new Moment();
@@ -1412,10 +1405,6 @@ public final class HeadHill {
         int best = NONE;
         Town town = null;
         Rule rule = null;
-
-        Choices(Course course) {
-            this.course = course;
-        }
 
         /** Only for a town with a HILL. */
         void begin(Town from, Rule by) {
@@ -1585,16 +1574,12 @@ public final class HeadHill {
 
     /** Which RULES, and whether none, the NOTES bear out: the HILL goes on anew from its text by each. */
     private static final class Witness {
-        final Course course;
+        final Course course = new Course();
         final Moment trial = new Moment();
         // Of each RULE that fits: who GOT each WARE on the DAY that is looked at.
         final int[][] gots = new int[MOST_RULES + 1][MOST_WARES];
         int fitting = 0;
         int first = -2;
-
-        Witness(Course course) {
-            this.course = course;
-        }
 
         /** Only for a town with a HILL. */
         void hear(Town town, Rule[] rules, int ruleCount, int lookedAt) {

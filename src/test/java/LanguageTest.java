@@ -135,6 +135,10 @@ public final class LanguageTest {
     private void spoiltRules() {
         ruleFault("", 0, UNFIT);
         ruleFault("runs 1", 0, UNFIT);
+        ruleFault("runz 1", 0, UNFIT);
+        ruleFault("runa 1", 0, UNFIT);
+        ruleFault("run{1", 3, UNFIT);
+        ruleFault("run`1", 3, UNFIT);
         ruleFault("hill 1", 0, UNFIT);
         ruleFault("run", 3, UNFIT);
         ruleFault("run ;", 4, UNFIT);
@@ -285,6 +289,11 @@ public final class LanguageTest {
         fact(TOWN, 0, 0, 0, "1=2 or 1=2 or 1=1");
         fact(TOWN, 0, 0, 0, "not [1=1 and 1=1 and 1=2]");
         fact(TOWN, 0, 0, 0, "not [not 1=1 or not 1=1] and [1=1]");
+        fact(TOWN, 0, 0, 0, "1=2 or 1=1 and [".repeat(7) + "1+2*3=7" + "]".repeat(7));
+        checks.holds("deep and false", !isSo(Checks.at(TOWN), 0, 0,
+                "1=2 or 1=1 and [".repeat(8) + "1+2*3=8" + "]".repeat(8)));
+        checks.holds("deep and true", isSo(Checks.at(TOWN), 0, 0,
+                "1=2 or 1=1 and [".repeat(8) + "9=9" + "]".repeat(8)));
     }
 
     private void clauses() {

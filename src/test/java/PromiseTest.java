@@ -300,6 +300,52 @@ public final class PromiseTest {
         v.day();
         due("0 is first of those alike", v.ware(0, 4), 0);
         purses("who has -99 pays nothing", v, -99, 0, -99);
+        HeadHill u = Checks.at("hill 60;runner 1 0;runner 20 0;runner 1 0;ware 99 50 1");
+        for (int i = 0; i < 4; i++) {
+            u.lend(1, 0, 20);
+        }
+        u.lend(1, 0, 18);
+        u.lend(1, 2, 1);
+        u.lend(2, 1, 1);
+        purses("one off the bounds", u, 98, -98, 0);
+        u.force(Checks.rule(u, "run 1 if runner<2"));
+        u.train(0, 20);
+        u.shift(0, 1);
+        u.fall(0);
+        u.lend(2, 0, 20);
+        purses("0 is ahead of 1", u, 20, -98, -20);
+        u.day();
+        purses("and pays", u, 19, -97, -20);
+        u.fall(0);
+        u.lend(1, 0, 1);
+        u.lend(0, 2, 20);
+        u.lend(0, 2, 20);
+        u.lend(0, 2, 20);
+        u.lend(0, 2, 20);
+        u.lend(0, 2, 17);
+        u.lend(0, 1, 1);
+        u.lend(1, 2, 1);
+        purses("both near the least", u, -97, -98, 78);
+        u.day();
+        purses("1 is paid by 0", u, -98, -97, 78);
+        u.train(1, 1);
+        u.shift(0, 99);
+        u.day();
+        purses("-98 is above -99: 0 pays", u, -99, -96, 78);
+        u.day();
+        purses("-99 is not", u, -99, -96, 78);
+        HeadHill t = Checks.at("hill 60;runner 20 40;runner 1 40;runner 1 40;ware 99 50 1", "run 1 if runner<2");
+        t.lend(0, 1, 20);
+        t.lend(0, 1, 20);
+        t.lend(0, 1, 18);
+        t.fall(0);
+        t.lend(2, 0, 10);
+        t.force(0);
+        // 0 is at -5.05, 1 at 1; then 0 is at -4.05, 1 at 0.
+        t.day();
+        purses("98 is below 99: 1 is paid", t, 9, 99, 30);
+        t.day();
+        purses("99 is not", t, 9, 99, 30);
         wealthBound();
     }
 
@@ -453,10 +499,10 @@ public final class PromiseTest {
         due("gets -1", x.gets(-1, 0), -1);
         due("gets what 2", x.gets(0, 2), -1);
         due("gets what -1", x.gets(0, -1), -1);
-        HeadHill y = Checks.at("hill 1;runner 9 0;runner 1 0;ware 9 1 9;ware 9 2 8", "run 1 if runner=1 and day=99",
-                "run 1 if runner=1 and day=100", "run day-95 if runner=1");
+        HeadHill y = Checks.at("hill 1;runner 9 0;runner 1 0;ware 9 1 1;ware 9 2 8", "run 1 if runner=1 and day=99",
+                "run 1 if runner=1 and day=100", "run ware if runner=1 and day>95");
         y.force(0);
-        due("the 100th, day 99, ware 0 is there", y.gets(1, 0), 99);
+        due("the 100th is day 99", y.gets(1, 0), 99);
         due("ware 0", y.gets(1, 1), 0);
         due("never by 0", y.gets(0, 0), -2);
         due("never by 0, which", y.gets(0, 1), -2);
@@ -511,6 +557,9 @@ public final class PromiseTest {
         HeadHill z = Checks.at("hill 9;runner 1 40;runner 20 40;ware 99 5 1");
         due("59 - p at most 99/20 - 40: none", z.need(0, 1, 5), -2);
         due("wealth had already counts", after(1, TOWN).need(0, 1, 10), 0);
+        HeadHill alone = Checks.at("hill 9;runner 1 0;ware 9 50 1");
+        due("all that days can bring", alone.need(0, 60, 3000), 0);
+        due("one more", alone.need(0, 60, 3001), -2);
         HeadHill w = Checks.at("hill 60;runner 1 40;runner 1 0;ware 99 1 1", "run 1 if runner=0 and purse=99",
                 "run 1 if runner=0 and purse=100");
         w.force(0);
@@ -710,6 +759,11 @@ public final class PromiseTest {
         due("first", f.rests(0, 1, 1), 0);
         due("none is ahead of 0", f.rests(0, 1, 2), -1);
         due("nothing changes", y.count(5), 1);
+        // For WARE 0 the first one had 2 less the 3 that it pays; so it stays. The second one is paid by 2.
+        HeadHill dear = Checks.at("hill 60;runner 20 0;runner 1 0;runner 2 0;runner 1 0;ware 99 1 1");
+        due("one", dear.rests(0, 1, 0), 1);
+        due("stays", dear.rests(0, 1, 1), -1);
+        due("runs", dear.rests(0, 1, 2), 0);
         // 1 beats both, and runs for WARE 0 unless 0 does; 2 beats 0 at both WARES. So 2 goes where 0 is, where it
         // meets not 1, and 0 goes away from 2: no rest.
         HeadHill round = Checks.at("hill 1;runner 9 1;runner 8 9;runner 8 3;ware 51 8 1;ware 6 6 2", "run 2-rivals");
@@ -745,6 +799,7 @@ public final class PromiseTest {
         due("6 of 1", x.pence(6, 1), 3);
         due("6 of 2", x.pence(6, 2), 1);
         due("0", x.pence(0, 0), 0);
+        due("of one in all", after(1, "hill 1;runner 1 0;ware 1 1 1").pence(7, 0), 7);
         int[][] wrong = {{-1, 0}, {10000, 0}, {1, 3}, {1, -1}, {MIN, 0}, {MAX, 0}, {1, MIN}, {1, MAX}};
         for (int[] w : wrong) {
             due("pence without these", x.pence(w[0], w[1]), -1);
@@ -766,6 +821,7 @@ public final class PromiseTest {
         }
         due("eleventh", x.note(0, 0, 2), -2);
         due("ten", x.count(8), 10);
+        due("ten at once", x.ruled(0), 0);
         due("none then", x.note(-1, 99, 99), 0);
         due("none", x.count(8), 0);
         due("first again", x.note(0, 0, 0), 1);
@@ -944,6 +1000,14 @@ public final class PromiseTest {
         due("no day", x.day(), -1);
         Checks.hill(x, "hill 9;runner 7 7");
         due("another hill goes back, too", x.back(0), 1);
+        due("with its note on day 5, ware 1, runner 1", x.ruled(0), 0);
+        x.note(-1, 0, 0);
+        x.note(1, 1, -1);
+        x.image(2);
+        x.note(-1, 0, 0);
+        x.note(0, 0, 0);
+        x.back(2);
+        due("nobody gets ware 1 on day 1", x.ruled(0), 3);
         due("runners", x.count(1), 3);
         due("made anew", x.image(3), 1);
         x.day();

@@ -5,9 +5,9 @@ final class Texts {
     private static final String[] WORDS = {"runner", "ware", "speed", "purse", "far", "worth", "rivals", "time",
         "lead", "wealth", "feast", "day"};
     private static final String[] SIGNS = {"<", "<=", "=", ">=", ">"};
-    private static final String[] PIECES = {" ", ";", "[", "]", "not ", "and ", "or ", "if ", "run ", "hill 3", "runner 1 1",
-        "ware 1 1 1", "1", "99999", "100000", "+", "-", "*", "/", "%", "<", "<=", "=", ">=", ">", "far", "worths", "X", "\0",
-        "\u00e9", "0"};
+    private static final String[] PIECES = {" ", ";", "[", "]", "not ", "and ", "or ", "if ", "run ", "hill 3",
+        "runner 1 1", "ware 1 1 1", "1", "99999", "100000", "+", "-", "*", "/", "%", "<", "<=", "=", ">=", ">", "far",
+        "worths", "X", "\0", "\u00e9", "0"};
 
     private final Random random;
 
