@@ -55,7 +55,8 @@ final class AskEdges extends Edges {
     }
 
     void promise15ZeroToAHundred() {
-        says("AHEAD n DAYS (0 to 100): PURSE of a RUNNER; WEALTH of a RUNNER; who GOT a WARE on the last DAY that has been.");
+        says("AHEAD n DAYS (0 to 100): PURSE of a RUNNER; WEALTH of a RUNNER; who GOT a WARE on the last DAY that"
+                + " has been.");
         HeadHill x = Checks.at(ALONE);
         int[] days = {0, 1, 2, 9, 10, 99, 100};
         int[] wealth = {0, 2, 3, 10, 12, 110, 112};
@@ -81,8 +82,8 @@ final class AskEdges extends Edges {
     }
 
     void promise15Ahead() {
-        says("AHEAD what 0: PURSE, 1: WEALTH of the RUNNER, 2: who (NONE: nobody) GOT the WARE of that number. -1000 without"
-                + " these, or a HILL.");
+        says("AHEAD what 0: PURSE, 1: WEALTH of the RUNNER, 2: who (NONE: nobody) GOT the WARE of that number."
+                + " -1000 without these, or a HILL.");
         int[][] without = {{0, -1, 0}, {0, 101, 0}, {0, MIN, 1}, {0, MAX, 1}, {0, -1, 2}, {0, 101, 2}, {-1, 0, 0},
             {3, 0, 0}, {-1, 0, 1}, {3, 0, 1}, {-1, 0, 2}, {2, 0, 2}, {MIN, 0, 0}, {MAX, 0, 2}, {0, 0, -1}, {0, 0, 3},
             {0, 0, MIN}, {0, 0, MAX}};
@@ -98,7 +99,8 @@ final class AskEdges extends Edges {
     }
 
     void promise16OfAHundred() {
-        says("GETS of a RUNNER: the first DAY, this one the first, of 100, on which they GET any WARE; which, the least.");
+        says("GETS of a RUNNER: the first DAY, this one the first, of 100, on which they GET any WARE; which, the"
+                + " least.");
         int[][] first = {{0, 0, 0}, {0, 1, 1}, {0, 98, 98}, {0, 99, 99}, {0, 100, -2}, {1, 0, -2}, {1, 1, 1},
             {1, 100, 100}, {1, 101, -2}, {5, 4, -2}, {5, 5, 5}, {5, 104, 104}, {5, 105, -2}};
         for (int[] f : first) {
@@ -109,6 +111,34 @@ final class AskEdges extends Edges {
         HeadHill both = by(Checks.at("hill 9;runner 1 0;ware 1 1 1;ware 1 1 1"), "run 1 if day>3;run ware if day=3");
         due("the first of many", both.gets(0, 0), 3);
         due("that one's ware", both.gets(0, 1), 1);
+    }
+
+    /** As many RUNNERS and WARES as there can be: 4 runs for WARE 5, and wins only that. */
+    private static HeadHill fullest() {
+        HeadHill x = Checks.at("hill 60;runner 1 0;runner 1 0;runner 1 0;runner 1 0;runner 1 3"
+                + ";ware 9 1 1;ware 9 2 1;ware 9 3 1;ware 9 4 1;ware 9 5 1;ware 9 6 1");
+        return by(x, "run 1 if runner=4 and ware=5");
+    }
+
+    void promise16InTheFullestHill() {
+        says("GETS of a RUNNER: the first DAY");
+        due("4 gets ware 5", fullest().gets(4, 1), 5);
+        due("0 gets none of six", fullest().gets(0, 1), -2);
+        due("3 gets none of six", fullest().gets(3, 0), -2);
+        due("4 has six in 1", fullest().ahead(4, 1, 1), 6);
+        due("4 has 600 in 100", fullest().ahead(4, 100, 1), 600);
+        due("who got 5", fullest().ahead(5, 1, 2), 4);
+        due("need of 4", fullest().need(4, 60, 360), 0);
+        due("lender of 4", fullest().lender(4, 60, 1), 360);
+        due("had of 4 and 5", fullest().had(4, 20, 5, 0), 61);
+        due("row of 0: ware 4", fullest().row(0, 1, 1), 4);
+        due("row of 4: ware 5", fullest().row(4, 3, 3), 5);
+        due("row of 0 in three", fullest().row(0, 3, 0), 15);
+        due("falls", fullest().falls(10, 60, 100, 0), 3600);
+        due("falls, purses", fullest().falls(10, 59, 0, 1), 30);
+        due("rank of 4", fullest().rank(4, 9), 0);
+        due("rank of 3", fullest().rank(3, 9), 4);
+        due("pence", after(1, fullest()).pence(9999, 4), 9999);
     }
 
     void promise16Gets() {
@@ -165,6 +195,11 @@ final class AskEdges extends Edges {
         due("60 in 60", x.need(0, 60, 60), 0);
         due("61 in 60", x.need(0, 60, 61), -2);
         due("9999 in 60", x.need(0, 60, 9999), -2);
+        HeadHill dear = Checks.at("hill 60;runner 1 0;ware 1 50 1");
+        due("50 in 1", dear.need(0, 1, 50), 0);
+        due("51 in 1", dear.need(0, 1, 51), -2);
+        due("3000 in 60", dear.need(0, 60, 3000), 0);
+        due("3001 in 60", dear.need(0, 60, 3001), -2);
         HeadHill fifty = after(199, "hill 9;runner 1 0;ware 1 50 1");
         due("9999 of 9950", fifty.need(0, 1, 9999), 0);
         fifty.day();
@@ -256,6 +291,11 @@ final class AskEdges extends Edges {
         full.fall(1);
         due("97 can't have 100", full.lender(0, 1, 0), -1);
         due("and has nothing", full.lender(0, 1, 1), 0);
+        HeadHill first = by(Checks.at(town), "run 1 if runner=2 and purse=3");
+        due("0 is a lender, too", first.lender(2, 1, 0), 0);
+        HeadHill middle = by(Checks.at(town), "run 1 if runner=1 and purse=3");
+        lendAll(middle, 0, 2, 97);
+        due("2 for 1, as 0 can't", middle.lender(1, 1, 0), 2);
         HeadHill self = by(Checks.at("hill 60;runner 1 0;ware 9 1 1"), "run 1 if purse=3");
         due("nobody lends to themselves", self.lender(0, 1, 0), -1);
     }
@@ -265,7 +305,8 @@ final class AskEdges extends Edges {
         String town = "hill 60;runner 1 0;runner 1 0;runner 1 6;runner 1 6;ware 9 1 1;ware 9 2 1;ware 9 3 1";
         due("all alike", by(Checks.at(town), "run 1").lender(0, 1, 0), -1);
         // With 3 of 1's: lead -3; of 2's: lead -3, too, as 3 has 6.
-        HeadHill x = by(Checks.at(town), "run 1 if runner=0 and ware=2 and purse=3;run 1 if runner=0 and ware=0 and purse=0");
+        HeadHill x = by(Checks.at(town),
+                "run 1 if runner=0 and ware=2 and purse=3;run 1 if runner=0 and ware=0 and purse=0");
         due("the least of three", x.lender(0, 1, 0), 1);
         due("three", x.lender(0, 1, 1), 3);
         HeadHill better = by(Checks.at("hill 60;runner 1 0;runner 1 3;runner 1 6;ware 9 1 1;ware 9 2 1;ware 9 3 1"),
@@ -288,8 +329,8 @@ final class AskEdges extends Edges {
     }
 
     void promise20Days() {
-        says("ROW of a RUNNER for n DAYS (1 to 3): the WARES for which they run on each, of those that are there, or none, in"
-                + " place of what the RULE says (others by it),");
+        says("ROW of a RUNNER for n DAYS (1 to 3): the WARES for which they run on each, of those that are there,"
+                + " or none, in place of what the RULE says (others by it),");
         // There on DAY 0: all; on DAY 1: 0 alone; on DAY 2: 0 and 1; on DAY 3: 0 and 2.
         HeadHill x = Checks.at("hill 60;runner 1 0;ware 1 1 1;ware 1 5 2;ware 1 9 3", "run 0");
         x.force(0);
@@ -336,22 +377,23 @@ final class AskEdges extends Edges {
     }
 
     void promise20Row() {
-        says("ROW what 0: how much, 1 to 3: the WARE on that one (NONE: none; -2: there is no such). -3 without these.");
+        says("ROW what 0: how much, 1 to 3: the WARE on that one (NONE: none; -2: there is no such). -3 without"
+                + " these.");
         HeadHill x = Checks.at(ONE);
         due("1 of 1", x.row(0, 1, 1), 0);
         due("2 of 1", x.row(0, 1, 2), -2);
         due("3 of 2", x.row(0, 2, 3), -2);
         due("3 of 3", x.row(0, 3, 3), 0);
-        int[][] without = {{-1, 1, 0}, {3, 1, 0}, {MIN, 1, 0}, {MAX, 1, 0}, {0, 0, 0}, {0, 4, 0}, {0, MIN, 0}, {0, MAX, 0},
-            {0, 1, -1}, {0, 1, 4}, {0, 3, 4}, {0, 1, MIN}, {0, 1, MAX}, {0, 0, 2}, {0, 4, 4}};
+        int[][] without = {{-1, 1, 0}, {3, 1, 0}, {MIN, 1, 0}, {MAX, 1, 0}, {0, 0, 0}, {0, 4, 0}, {0, MIN, 0},
+            {0, MAX, 0}, {0, 1, -1}, {0, 1, 4}, {0, 3, 4}, {0, 1, MIN}, {0, 1, MAX}, {0, 0, 2}, {0, 4, 4}};
         for (int[] w : without) {
             refused("row " + w[0] + " " + w[1] + " " + w[2], Scenes::rich, y -> y.row(w[0], w[1], w[2]), -3);
         }
     }
 
     void promise21FewestGoes() {
-        says("SETTLE: seconds that go from one RUNNER to another in one go, any many: the fewest goes by which all PURSES are 0"
-                + " (only if they are 0 together).");
+        says("SETTLE: seconds that go from one RUNNER to another in one go, any many: the fewest goes by which all"
+                + " PURSES are 0 (only if they are 0 together).");
         String five = "hill 60" + ";runner 1 0".repeat(5);
         int[][] lent = {{0, 0, 0, 0}, {1, 0, 0, 0}, {0, 0, 0, 99}, {49, 0, 0, 50}, {1, 1, 0, 0},
             {1, 2, 3, 0}, {1, 2, 4, 8}, {4, 3, 2, 1}, {24, 25, 25, 25}};
@@ -390,8 +432,8 @@ final class AskEdges extends Edges {
     }
 
     void promise22Sets() {
-        says("RINGS: sets of RUNNERS, one at least, whose PURSES are 0 together: how many; the one of most, of several the"
-                + " least as bits.");
+        says("RINGS: sets of RUNNERS, one at least, whose PURSES are 0 together: how many; the one of most, of"
+                + " several the least as bits.");
         HeadHill five = Checks.at("hill 60" + ";runner 1 0".repeat(5));
         due("31 sets", five.rings(0), 31);
         due("all", five.rings(1), 31);
@@ -439,15 +481,16 @@ final class AskEdges extends Edges {
     }
 
     void promise23NumbersAsPurse() {
-        says("numbers -20 to 40 as PURSE now, in place of what it is, by which they GET that WARE on the last one of these: how"
-                + " many; the least.");
-        String[] purses = {"purse=0-21", "purse=0-20", "purse=0-19", "purse=40", "purse=41", "purse>0-100", "purse=0-20 or purse=40",
-            "purse<0", "purse>39", "purse=7"};
+        says("numbers -20 to 40 as PURSE now, in place of what it is, by which they GET that WARE on the last one"
+                + " of these: how many; the least.");
+        String[] purses = {"purse=0-21", "purse=0-20", "purse=0-19", "purse=40", "purse=41", "purse>0-100",
+            "purse=0-20 or purse=40", "purse<0", "purse>39", "purse=7"};
         int[] many = {0, 1, 1, 1, 0, 61, 2, 20, 1, 1};
         int[] least = {-1000, -20, -19, 40, -1000, -20, -20, -20, 40, 7};
         for (int i = 0; i < purses.length; i++) {
             for (int seconds : new int[] {0, 40, 99}) {
-                HeadHill x = by(Checks.at("hill 60;runner 1 0;runner 1 0;ware 1 1 1"), "run 1 if runner=0 and [" + purses[i] + "]");
+                HeadHill x = by(Checks.at("hill 60;runner 1 0;runner 1 0;ware 1 1 1"),
+                        "run 1 if runner=0 and [" + purses[i] + "]");
                 lendAll(x, 0, 1, seconds);
                 due(purses[i] + " with " + -seconds, x.had(0, 1, 0, 0), many[i]);
                 due(purses[i] + " with " + -seconds + ", the least", x.had(0, 1, 0, 1), least[i]);
@@ -466,8 +509,8 @@ final class AskEdges extends Edges {
         due("none", never.had(0, 20, 0, 0), 0);
         due("no least", never.had(0, 20, 0, 1), -1000);
         int[][] without = {{-1, 1, 0, 0}, {3, 1, 0, 0}, {MIN, 1, 0, 0}, {MAX, 1, 0, 0}, {0, 0, 0, 0}, {0, 21, 0, 0},
-            {0, MIN, 0, 0}, {0, MAX, 0, 0}, {0, 1, -1, 0}, {0, 1, 2, 0}, {0, 1, MIN, 0}, {0, 1, MAX, 0}, {0, 1, 0, -1},
-            {0, 1, 0, 2}, {0, 1, 0, MIN}, {0, 1, 0, MAX}};
+            {0, MIN, 0, 0}, {0, MAX, 0, 0}, {0, 1, -1, 0}, {0, 1, 2, 0}, {0, 1, MIN, 0}, {0, 1, MAX, 0},
+            {0, 1, 0, -1}, {0, 1, 0, 2}, {0, 1, 0, MIN}, {0, 1, 0, MAX}};
         for (int[] w : without) {
             refused("had " + w[0] + " " + w[1] + " " + w[2] + " " + w[3], Scenes::rich,
                     x -> x.had(w[0], w[1], w[2], w[3]), -1001);
@@ -481,7 +524,8 @@ final class AskEdges extends Edges {
     }
 
     void promise24ThatIsThereOrNone() {
-        says("RESTS of two RUNNERS: each runs on this DAY for a WARE that is there, or none (told as NONE, ahead of 0),");
+        says("RESTS of two RUNNERS: each runs on this DAY for a WARE that is there, or none (told as NONE, ahead"
+                + " of 0),");
         restsAre("no wares", Checks.at("hill 9;runner 1 3;runner 1 4"), 0, 1, 1, -1, -1);
         restsAre("none there", after(1, "hill 9;runner 1 3;runner 1 4;ware 1 9 2"), 0, 1, 1, -1, -1);
         // The dear WARE 0 is not there on DAY 1; each has one of the two others.
@@ -496,10 +540,11 @@ final class AskEdges extends Edges {
     void promise24OthersByTheRule() {
         says("others by the RULE (rivals as it comes):");
         // 1 goes where 0 is not, or for WARE 0; it beats 2, and 2 beats 0.
-        HeadHill round = by(Checks.at("hill 1;runner 9 1;runner 8 9;runner 8 3;ware 51 8 1;ware 6 6 2"), "run 2-rivals");
+        HeadHill round = by(Checks.at("hill 1;runner 9 1;runner 8 9;runner 8 3;ware 51 8 1;ware 6 6 2"),
+                "run 2-rivals");
         restsAre("no rest", round, 0, 2, 0, -2, -2);
-        // 2, the fastest, goes for the WARE with fewer of 0 and 1, or for WARE 0; 0 beats 1. So 0 at WARE 1 has it always,
-        // and 1 nothing then, wherever it is; with 0 elsewhere 1 has one of the WARES, and 0 would turn to WARE 1.
+        // 2, the fastest, goes for the WARE with fewer of 0 and 1, or for WARE 0; 0 beats 1. So 0 at WARE 1 has it
+        // always, and 1 nothing then, wherever it is; with 0 elsewhere 1 has a WARE, or 0 would turn to WARE 1.
         HeadHill x = by(Checks.at("hill 1;runner 9 0;runner 8 0;runner 20 0;ware 9 5 1;ware 9 5 1"), "run 2-rivals");
         restsAre("0 at ware 1, 1 anywhere", x, 0, 1, 3, 1, -1);
     }
@@ -511,13 +556,18 @@ final class AskEdges extends Edges {
         restsAre("2 less 2 is as good as none", x, 0, 1, 2, -1, 0);
         HeadHill dear = Checks.at("hill 60;runner 20 0;runner 1 0;runner 2 0;runner 1 0;ware 99 1 1");
         restsAre("2 less 3 is not", dear, 0, 1, 1, -1, 0);
+        restsAre("2 less 2, turned", x, 1, 0, 2, 0, -1);
+        restsAre("2 less 3, turned", dear, 1, 0, 1, 0, -1);
         HeadHill cheap = Checks.at("hill 60;runner 20 0;runner 1 0;ware 99 1 1");
         restsAre("2 less 1 is better", cheap, 0, 1, 1, 0, 0);
         // With 9999 there is nothing more to have: 0 only pays.
         HeadHill full = after(200, "hill 1;runner 20 0;runner 1 0;ware 9 50 1");
         wealth("full", full, 9999, 0);
         restsAre("on a feast all is one to 0", full, 0, 1, 3, -1, 0);
-        // With 9950 there are 49 more, with 9998 one.
+        // With 9950 both WARES bring 49: 0 may be at either, and 1, whom 0 beats, at the other one.
+        HeadHill near = after(199, "hill 1;runner 20 0;runner 1 0;ware 9 50 1;ware 9 49 1");
+        wealth("near", near, 9950, 0);
+        restsAre("49 by 50 and by 49", near, 0, 1, 2, 0, 1);
         HeadHill low = Checks.at("hill 60;runner 20 0;runner 1 0;ware 99 1 1");
         lendAll(low, 0, 1, 90);
         // 0 is at 94.95, 1 at 9: 1 GETS it and pays a second if 0 runs.
@@ -525,8 +575,8 @@ final class AskEdges extends Edges {
     }
 
     void promise24TheFirstTwo() {
-        says("twos by which neither would have more by another one: how many; the first (by the first one, then the second"
-                + " one).");
+        says("twos by which neither would have more by another one: how many; the first (by the first one, then"
+                + " the second one).");
         HeadHill x = Checks.at("hill 1;runner 1 0;runner 1 0;ware 9 5 1;ware 9 5 1;ware 9 5 1");
         // 0 has 10 wherever it is, but for none; 1 has 10 where 0 is not: six twos, 0 with 1 the first.
         restsAre("six", x, 0, 1, 6, 0, 1);
@@ -538,13 +588,20 @@ final class AskEdges extends Edges {
     }
 
     void promise24Rests() {
-        says("RESTS what 0: how many, 1, 2: WARES of the first (NONE: none; -2: there is no rest). -3 without these (unlike).");
-        int[][] without = {{0, 0, 0}, {2, 2, 1}, {-1, 0, 0}, {0, -1, 0}, {3, 0, 0}, {0, 3, 0}, {MIN, 0, 0}, {0, MIN, 0},
-            {MAX, 0, 0}, {0, MAX, 0}, {0, 1, -1}, {0, 1, 3}, {0, 1, MIN}, {0, 1, MAX}, {-1, -1, 0}};
+        says("RESTS what 0: how many, 1, 2: WARES of the first (NONE: none; -2: there is no rest). -3 without"
+                + " these (unlike).");
+        int[][] without = {{0, 0, 0}, {2, 2, 1}, {-1, 0, 0}, {0, -1, 0}, {3, 0, 0}, {0, 3, 0}, {MIN, 0, 0},
+            {0, MIN, 0}, {MAX, 0, 0}, {0, MAX, 0}, {0, 1, -1}, {0, 1, 3}, {0, 1, MIN}, {0, 1, MAX}, {-1, -1, 0}};
         for (int[] w : without) {
             refused("rests " + w[0] + " " + w[1] + " " + w[2], Scenes::rich, x -> x.rests(w[0], w[1], w[2]), -3);
         }
         HeadHill five = Checks.at("hill 60" + ";runner 1 0".repeat(5));
+        // All six WARES are there, and each RUNNER is first to none that 4 runs for.
+        HeadHill full = Checks.at("hill 1;runner 1 0;runner 1 0;runner 1 0;runner 1 0;runner 20 0"
+                + ";ware 9 1 1;ware 9 2 1;ware 9 3 1;ware 9 4 1;ware 9 5 1;ware 9 6 1", "run 0");
+        full.force(0);
+        restsAre("ware 4 and ware 5 of six", full, 0, 4, 1, 4, 5);
+        restsAre("turned, of six", full, 4, 0, 1, 5, 4);
         restsAre("the first and the last of five", five, 0, 4, 1, -1, -1);
         restsAre("turned", five, 4, 0, 1, -1, -1);
     }
@@ -578,8 +635,8 @@ final class AskEdges extends Edges {
     }
 
     void promise25PartsDownwards() {
-        says("each the part downwards; what is left, one each, to those whose part lost most by that, of several the least first"
-                + " (nothing, if nobody has any).");
+        says("each the part downwards; what is left, one each, to those whose part lost most by that, of several"
+                + " the least first (nothing, if nobody has any).");
         penceAre(withWealth(1, 5, 5, 5, 5, 5), 5, 1, 1, 1, 1, 1);
         penceAre(withWealth(1, 5, 5, 5, 5, 5), 9, 2, 2, 2, 2, 1);
         penceAre(withWealth(1, 5, 5, 5, 5, 5), 6, 2, 1, 1, 1, 1);

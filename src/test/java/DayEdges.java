@@ -27,8 +27,8 @@ final class DayEdges extends Edges {
     }
 
     void promise08Ware() {
-        says("Of a WARE what 0: FAR, 1: WORTH, 2: EVERY, 3: 1 if it is there, else 0, 4: who GOT it on the last DAY that"
-                + " has been (NONE: nobody). -2 without these.");
+        says("Of a WARE what 0: FAR, 1: WORTH, 2: EVERY, 3: 1 if it is there, else 0, 4: who GOT it on the last"
+                + " DAY that has been (NONE: nobody). -2 without these.");
         HeadHill x = Checks.at("hill 9;runner 1 0;runner 2 0;ware 99 50 2;ware 1 1 9");
         int[][] due = {{99, 50, 2, 1, -1}, {1, 1, 9, 1, -1}};
         for (int w = 0; w < 2; w++) {
@@ -51,8 +51,8 @@ final class DayEdges extends Edges {
     }
 
     void promise09GotByNobody() {
-        says("(2) Each WARE is GOT by who is FIRST to it of all that run for it (by nobody, if none does; all by PURSES"
-                + " as the DAY began):");
+        says("(2) Each WARE is GOT by who is FIRST to it of all that run for it (by nobody, if none does; all by"
+                + " PURSES as the DAY began):");
         HeadHill x = by(Checks.at("hill 9;runner 9 0;runner 1 0;ware 1 5 1;ware 1 5 1;ware 1 5 1"),
                 "run 1 if runner=1 and ware=0;run 1 if runner=0 and ware=2");
         due("0 and 2", x.day(), 5);
@@ -269,8 +269,8 @@ final class DayEdges extends Edges {
     }
 
     void promise10Lend() {
-        says("LEND: PURSE of the first one then (below 0, too). -1000, and nothing happens, without these (unlike, 1 to 20,"
-                + " so that it can be).");
+        says("LEND: PURSE of the first one then (below 0, too). -1000, and nothing happens, without these (unlike,"
+                + " 1 to 20, so that it can be).");
         due("to 0", Checks.at(Scenes.TOWN).lend(0, 2, 5), 0);
         due("to -1", Checks.at(Scenes.TOWN).lend(0, 2, 6), -1);
         int[][] without = {{0, 0, 1}, {2, 2, 1}, {-1, 0, 1}, {0, -1, 1}, {3, 0, 1}, {0, 3, 1}, {4, 0, 1}, {MIN, 0, 1},

@@ -34,9 +34,10 @@ final class KeepEdges extends Edges {
     }
 
     void promise26Note() {
-        says("A NOTE (n NONE: there are none then, 0): how many; -2, and nothing happens, without these (runner NONE: nobody),");
-        int[][] without = {{-2, 0, 0}, {61, 0, 0}, {MIN, 0, 0}, {MAX, 0, 0}, {0, -1, 0}, {0, 2, 0}, {0, MIN, 0}, {0, MAX, 0},
-            {0, 0, -2}, {0, 0, 3}, {0, 0, MIN}, {0, 0, MAX}};
+        says("A NOTE (n NONE: there are none then, 0): how many; -2, and nothing happens, without these (runner"
+                + " NONE: nobody),");
+        int[][] without = {{-2, 0, 0}, {61, 0, 0}, {MIN, 0, 0}, {MAX, 0, 0}, {0, -1, 0}, {0, 2, 0}, {0, MIN, 0},
+            {0, MAX, 0}, {0, 0, -2}, {0, 0, 3}, {0, 0, MIN}, {0, 0, MAX}};
         for (int[] w : without) {
             refused("note " + w[0] + " " + w[1] + " " + w[2], Scenes::rich, x -> x.note(w[0], w[1], w[2]), -2);
         }
@@ -84,8 +85,8 @@ final class KeepEdges extends Edges {
     }
 
     void promise27FromTheBeginOn() {
-        says("RULED: which of the RULES, and of none, so that from the begin on, all as the text told it, all NOTES are so: how"
-                + " many; the first (none ahead of 0, told as NONE).");
+        says("RULED: which of the RULES, and of none, so that from the begin on, all as the text told it, all"
+                + " NOTES are so: how many; the first (none ahead of 0, told as NONE).");
         String town = "hill 60;runner 1 5;runner 1 0;ware 9 5 1;ware 9 4 1";
         HeadHill x = Checks.at(town, "run 0", "run ware", "run worth", "run 1", "run 2", "run 3");
         due("six and none", x.ruled(0), 7);
@@ -118,7 +119,8 @@ final class KeepEdges extends Edges {
     }
 
     void promise27Ruled() {
-        says("RULED what 0: how many, 1: the first (NONE: none; -2: there is none such). -3 for others, or without a HILL.");
+        says("RULED what 0: how many, 1: the first (NONE: none; -2: there is none such). -3 for others, or without"
+                + " a HILL.");
         for (int what : new int[] {-1, 2, MIN, MAX}) {
             refused("ruled " + what, Scenes::rich, x -> x.ruled(what), -3);
         }
@@ -129,8 +131,8 @@ final class KeepEdges extends Edges {
     }
 
     void promise28PartBest() {
-        says("LOOK for the n-th DAY: the WARE by who GOT it on it these part best: the most alike are fewest, of several the least;"
-                + " how many.");
+        says("LOOK for the n-th DAY: the WARE by who GOT it on it these part best: the most alike are fewest, of"
+                + " several the least; how many.");
         String town = "hill 60;runner 1 0;runner 2 0;ware 9 5 1;ware 9 4 1";
         // WARE 0 by 1, by 0, by nobody and by nobody; WARE 1 by nobody, by nobody, by nobody and by 1.
         HeadHill x = Checks.at(town, "run 1 if runner=0", "run 0", "run ware");
@@ -147,11 +149,13 @@ final class KeepEdges extends Edges {
         due("the least of two", alike.look(0, 0), 0);
         due("two", alike.look(0, 1), 2);
         // None parts: seven alike.
-        HeadHill seven = Checks.at(town, "run worth", "run worth", "run worth", "run worth", "run worth", "run worth");
+        String worth = "run worth";
+        HeadHill seven = Checks.at(town, worth, worth, worth, worth, worth, worth);
         due("ware 0 of none that parts", seven.look(0, 0), 0);
         due("seven alike", seven.look(0, 1), 7);
         // WARE 5 alone parts, on DAY 60 alone.
-        HeadHill last = Checks.at("hill 60;runner 1 0" + ";ware 1 1 1".repeat(6), "run 1", "run 5 if ware=5 and day=60;run 1");
+        HeadHill last = Checks.at("hill 60;runner 1 0" + ";ware 1 1 1".repeat(6), "run 1",
+                "run 5 if ware=5 and day=60;run 1");
         due("day 59", last.look(59, 1), 3);
         due("day 60: both part two and one", last.look(60, 1), 2);
         due("day 60: the least", last.look(60, 0), 0);
@@ -163,8 +167,8 @@ final class KeepEdges extends Edges {
     }
 
     void promise28Look() {
-        says("LOOK (n 0 to 60) what 0: the WARE, 1: how many; -2: no RULE is so, or there are no WARES. NONE without these, or a"
-                + " HILL.");
+        says("LOOK (n 0 to 60) what 0: the WARE, 1: how many; -2: no RULE is so, or there are no WARES. NONE"
+                + " without these, or a HILL.");
         HeadHill x = Checks.at("hill 60;runner 1 0;ware 1 1 1", "run 1 if day=0", "run 1 if day=60");
         due("day 0: none and 0 alike", x.look(0, 1), 2);
         due("day 60: none and 1 alike", x.look(60, 1), 2);
@@ -173,7 +177,8 @@ final class KeepEdges extends Edges {
         due("both part on day 0", x.look(0, 1), 1);
         due("both part on day 60", x.look(60, 1), 1);
         due("not on day 59", x.look(59, 1), 2);
-        int[][] without = {{-1, 0}, {61, 0}, {-1, 1}, {61, 1}, {MIN, 0}, {MAX, 0}, {0, -1}, {0, 2}, {0, MIN}, {0, MAX}};
+        int[][] without = {{-1, 0}, {61, 0}, {-1, 1}, {61, 1}, {MIN, 0}, {MAX, 0}, {0, -1}, {0, 2}, {0, MIN},
+            {0, MAX}};
         for (int[] w : without) {
             refused("look " + w[0] + " " + w[1], Scenes::rich, y -> y.look(w[0], w[1]), -1);
         }
@@ -254,8 +259,8 @@ final class KeepEdges extends Edges {
     }
 
     void promise30AheadOfEach() {
-        says("ahead of each a DRAW mod 100; is it below p (0 to 100), and are there RUNNERS, a DRAW mod how many: that one's PURSE"
-                + " is 0:");
+        says("ahead of each a DRAW mod 100; is it below p (0 to 100), and are there RUNNERS, a DRAW mod how many:"
+                + " that one's PURSE is 0:");
         // 1 is at -20 and 0 at 1; fallen, 1 is at 20. 15929 mod 100 is 29, 4409 mod 2 is 1.
         HeadHill x = Checks.at("hill 60;runner 20 0;runner 1 40;ware 20 5 1");
         x.seed(MAX);
@@ -272,12 +277,18 @@ final class KeepEdges extends Edges {
         due("no runners", none.falls(10, 60, 100, 0), 0);
         due("no runners, purses", none.falls(10, 60, 100, 1), 0);
         HeadHill one = Checks.at("hill 60;runner 1 40");
-        due("one runner falls each time", one.falls(10, 60, 100, 1), 0);
+        due("one runner falls each time", one.falls(10, 59, 100, 1), 0);
+        due("one runner falls once", one.falls(1, 1, 100, 1), 0);
         due("and never", one.falls(10, 59, 0, 1), 400);
+        HeadHill five = Checks.at("hill 60" + ";runner 1 0".repeat(4) + ";runner 1 7");
+        five.seed(MAX);
+        due("the last of five: 4409 mod 5 is 4", five.falls(1, 1, 30, 1), 0);
+        due("but not by 29", five.falls(1, 1, 29, 1), 7);
     }
 
     void promise30AllTogether() {
-        says("how much all have more WEALTH by these; the greatest PURSE at the end (of 0 at least), all together (x as it was).");
+        says("how much all have more WEALTH by these; the greatest PURSE at the end (of 0 at least), all together"
+                + " (x as it was).");
         HeadHill below = Checks.at("hill 60;runner 1 0;runner 1 0;runner 1 0");
         below.lend(0, 1, 5);
         below.fall(1);
@@ -304,8 +315,8 @@ final class KeepEdges extends Edges {
     void promise30Falls() {
         says("FALLS what 0: how much, 1: PURSES. NONE without these, or a HILL.");
         int[][] without = {{0, 1, 1, 0}, {11, 1, 1, 0}, {-1, 1, 1, 0}, {MIN, 1, 1, 0}, {MAX, 1, 1, 0}, {1, 0, 1, 0},
-            {1, 61, 1, 0}, {1, -1, 1, 0}, {1, MIN, 1, 0}, {1, MAX, 1, 0}, {1, 1, -1, 0}, {1, 1, 101, 0}, {1, 1, MIN, 0},
-            {1, 1, MAX, 0}, {1, 1, 1, -1}, {1, 1, 1, 2}, {1, 1, 1, MIN}, {1, 1, 1, MAX}};
+            {1, 61, 1, 0}, {1, -1, 1, 0}, {1, MIN, 1, 0}, {1, MAX, 1, 0}, {1, 1, -1, 0}, {1, 1, 101, 0},
+            {1, 1, MIN, 0}, {1, 1, MAX, 0}, {1, 1, 1, -1}, {1, 1, 1, 2}, {1, 1, 1, MIN}, {1, 1, 1, MAX}};
         for (int[] w : without) {
             refused("falls " + w[0] + " " + w[1] + " " + w[2] + " " + w[3], Scenes::rich,
                     x -> x.falls(w[0], w[1], w[2], w[3]), -1);
@@ -315,10 +326,11 @@ final class KeepEdges extends Edges {
     }
 
     void promise31Count() {
-        says("What 0: FEAST, 1: RUNNERS, 2: WARES, 3: RULES, 4: the RULE IN FORCE (NONE), 5: DAY, 6: WEALTH of all, 7: WARES that"
-                + " are there, as bits, 8: NOTES, 9: ACTS that can be UNDONE, 10: x, 11: bytes of the TAPE. NONE for others.");
-        HeadHill x = Checks.at("hill 60" + ";runner 1 0".repeat(5) + ";ware 1 50 1".repeat(6), "run 1 if ware=runner", "run 2",
-                "run 3", "run 4", "run 5", "run 6");
+        says("What 0: FEAST, 1: RUNNERS, 2: WARES, 3: RULES, 4: the RULE IN FORCE (NONE), 5: DAY, 6: WEALTH of"
+                + " all, 7: WARES that are there, as bits, 8: NOTES, 9: ACTS that can be UNDONE, 10: x, 11: bytes"
+                + " of the TAPE. NONE for others.");
+        HeadHill x = Checks.at("hill 60" + ";runner 1 0".repeat(5) + ";ware 1 50 1".repeat(6),
+                "run 1 if ware=runner", "run 2", "run 3", "run 4", "run 5", "run 6");
         x.force(0);
         after(200, x);
         x.force(5);
@@ -417,6 +429,32 @@ final class KeepEdges extends Edges {
                 due("far then", x.ware(0, 0), 55 + left);
             }
             due("no more", x.undo(), -2);
+        }
+    }
+
+    /** A NOTE of the IMAGE is as it was, by its DAY, its WARE and its RUNNER. */
+    void promise33NotesAsTheyWere() {
+        says("gone back to, it is as it was");
+        int[][] others = {{1, 0, 0}, {0, 1, 0}, {0, 0, 1}, {0, 0, -1}};
+        for (int[] other : others) {
+            // On DAY 0 alone 0 GETS WARE 0.
+            HeadHill x = Checks.at("hill 60;runner 1 0;runner 1 0;ware 9 1 1;ware 9 1 1",
+                    "run 1 if day=0 and runner+ware=0");
+            x.note(-1, 0, 0);
+            x.note(0, 0, 0);
+            x.note(1, 0, -1);
+            x.image(0);
+            due("the rule is so", x.ruled(1), 0);
+            x.note(-1, 0, 0);
+            x.note(other[0], other[1], other[2]);
+            x.note(1, 0, -1);
+            due("with another note nothing is", x.ruled(1), -2);
+            x.image(1);
+            x.back(0);
+            due("it is so again", x.ruled(1), 0);
+            due("and alone", x.ruled(0), 1);
+            x.back(1);
+            due("not so again", x.ruled(0), 0);
         }
     }
 

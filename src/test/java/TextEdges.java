@@ -133,6 +133,73 @@ final class TextEdges extends Edges {
         refused("end 401 of 400", () -> onTape("run 1" + " ".repeat(395)), x -> x.end(401), -1);
     }
 
+    /** Bytes behind the end were there once: they go on with no WORD, NUMBER or SIGN ahead of it. */
+    void promise03NothingOfWhatWasCutOff() {
+        says("The TAPE has its first n bytes alone");
+        due("12345|6", cut("run 123456", 9), 0);
+        due("12345|6, spoilt without the cut", cut("run 123456", 10), fault(4, NUMBER));
+        due("far|x", cut("run farx", 7), 0);
+        due("fa|r", cut("run far", 6), fault(4, UNFIT));
+        due("<|=1", cut("run 1 if 1<=1", 11), fault(11, UNFIT));
+        due(">|=1", cut("run 1 if 1>=1", 11), fault(11, UNFIT));
+        due("run 1|;", cut("run 1;", 5), 0);
+        due("run 1| x", cut("run 1 x", 6), 0);
+    }
+
+    private static int cut(String text, int n) {
+        HeadHill x = onTape(text);
+        x.end(n);
+        return x.rule();
+    }
+
+    /** WORDS, NUMBERS and SIGNS that end with the last byte there can be. */
+    void promise05LastBytes() {
+        says("RULES 0 to 5: texts likewise");
+        String[] last = {"run", "run fa", "run f", "run 1 if 1<", "run 1 if 1>", "run 1 if 1=1 an", "run 1 if no"};
+        int[] at = {400, 398, 399, 400, 400, 398, 398};
+        for (int i = 0; i < last.length; i++) {
+            ruleFault(" ".repeat(400 - last[i].length()) + last[i], at[i], UNFIT);
+        }
+        for (String sound : new String[] {"run far", "run 12345", "run 1 if 1<=12345", "run 1 if [1=1]"}) {
+            ruleIs(" ".repeat(400 - sound.length()) + sound, 0);
+        }
+        ruleFault(" ".repeat(390) + "run 123456", 394, NUMBER);
+        hillFault(" ".repeat(397) + "run", 397, UNFIT);
+        hillFault(" ".repeat(392) + "hill 1;r", 399, UNFIT);
+        hillFault(" ".repeat(396) + "ware", 396, CLAUSE);
+    }
+
+    /** Nothing of a text that was read ahead, spoilt or whole, counts for the next. */
+    void promise05EachTextBeginsAnew() {
+        says("The TAPE, which is empty then, is a RULE");
+        HeadHill x = new HeadHill();
+        String sixty = "run 1" + "+1".repeat(59);
+        String ten = "run 1 if " + "[".repeat(10) + "1=1" + "]".repeat(10);
+        String nots = "run 1 if " + "not ".repeat(10) + "1=1";
+        due("too deep", Checks.rule(x, "run 1 if " + "[".repeat(11)), fault(19, DEEP));
+        due("ten deep", Checks.rule(x, ten), 0);
+        due("too many nots", Checks.rule(x, "run 1 if " + "not ".repeat(11)), fault(49, DEEP));
+        due("ten nots", Checks.rule(x, nots), 1);
+        due("too many parts", Checks.rule(x, sixty + "+1"), fault(124, PART));
+        due("sixty parts", Checks.rule(x, sixty), 2);
+        due("sixty again", Checks.rule(x, sixty), 3);
+        due("left open", Checks.rule(x, "run 1 if 1=1 or [1=1"), fault(20, UNFIT));
+        due("none is open", Checks.rule(x, "run 1 if 1=1]"), fault(12, UNFIT));
+        due("too many clauses", Checks.rule(x, "run 1;".repeat(12) + "run 1"), fault(72, CLAUSE));
+        due("twelve", Checks.rule(x, "run 1;".repeat(11) + "run 1"), 4);
+        due("something waits", Checks.rule(x, "run 1+2*"), fault(8, UNFIT));
+        due("nots wait", Checks.rule(x, "run 1 if " + "not ".repeat(10)), fault(49, UNFIT));
+        due("eleven deep all the same", Checks.rule(x, "run 1+1 if " + "[".repeat(11)), fault(21, DEEP));
+        due("a not waits", Checks.rule(x, "run 1 if not"), fault(12, UNFIT));
+        due("a last one", Checks.rule(x, "run ware"), 5);
+        due("a hill", Checks.hill(x, "hill 9;runner 1 0;ware 1 1 1;ware 1 1 1"), 1);
+        x.force(5);
+        due("of the last one all is its own", x.day(), 2);
+        due("another hill with a fault", Checks.hill(x, "hill 9;runner 1 0;runner 1 0;ware 1"), fault(35, UNFIT));
+        due("as many as there can be", Checks.hill(x, "hill 1" + FIVE_RUNNERS + SIX_WARES), 5);
+        due("again", Checks.hill(x, "hill 1" + FIVE_RUNNERS + SIX_WARES), 5);
+    }
+
     void promise04AtMost400Bytes() {
         says("A HILL is a text of at most 400 bytes");
         String most = "hill 60" + FIVE_RUNNERS + SIX_WARES;
@@ -381,8 +448,8 @@ final class TextEdges extends Edges {
     }
 
     void promise05Tests() {
-        says("TEST: PART { or PART }. PART: FACT { and FACT }. FACT: not FACT | [ TEST ] (these brackets are signs)"
-                + " | SUM SIGN SUM, SIGN one of < <= = >= >.");
+        says("TEST: PART { or PART }. PART: FACT { and FACT }. FACT: not FACT | [ TEST ] (these brackets are"
+                + " signs) | SUM SIGN SUM, SIGN one of < <= = >= >.");
         for (String sign : new String[] {"<", "<=", "=", ">=", ">"}) {
             ruleIs("run 1 if 1" + sign + "2", 0);
             ruleFault("run 1 if 1" + sign, 10 + sign.length(), UNFIT);
@@ -402,6 +469,14 @@ final class TextEdges extends Edges {
         ruleFault("run 1 if 1=1 or and 1=1", 16, UNFIT);
         ruleFault("run 1 if 1=1 not 1=1", 13, UNFIT);
         ruleFault("run 1 if (1=1)", 9, UNFIT);
+        ruleFault("run 1 if [1=1]+1", 14, UNFIT);
+        ruleFault("run 1 if [1=1]=1", 14, UNFIT);
+        ruleFault("run 1 if 1+[1=1]", 11, UNFIT);
+        ruleFault("run 1 if 1=1=1", 12, UNFIT);
+        ruleFault("run 1 if 1=[1=1]", 11, UNFIT);
+        ruleFault("run 1 if 1=not 1=1", 11, UNFIT);
+        ruleFault("run 1 if 1 and 1=1", 11, UNFIT);
+        ruleFault("run 1 if 1=1 if 1=1", 13, UNFIT);
     }
 
     void promise05Sums() {
@@ -567,8 +642,8 @@ final class TextEdges extends Edges {
     }
 
     void promise05TooManyClauses() {
-        says("4 one CLAUSE too many, a second hill, another CLAUSE ahead of it, a sixth RUNNER, a seventh WARE"
-                + " (at its first byte).");
+        says("4 one CLAUSE too many, a second hill, another CLAUSE ahead of it, a sixth RUNNER, a seventh WARE (at"
+                + " its first byte).");
         ruleFault("run 1;".repeat(12) + "  run 1", 74, CLAUSE);
         hillFault("hill 1;  hill", 9, CLAUSE);
         hillFault("  runner", 2, CLAUSE);

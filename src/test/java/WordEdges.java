@@ -181,6 +181,54 @@ final class WordEdges extends Edges {
         so(minusOne, 0, 0, ROUND + "*purse=" + ROUND);
     }
 
+    void promise09SignsHold() {
+        says("SUM SIGN SUM, SIGN one of < <= = >= >.");
+        Maker one = at("hill 9;runner 1 0;ware 1 1 1");
+        so(one, 0, 0, "1<2 and not 2<2 and not 3<2");
+        so(one, 0, 0, "1<=2 and 2<=2 and not 3<=2");
+        so(one, 0, 0, "not 1=2 and 2=2 and not 3=2");
+        so(one, 0, 0, "not 1>=2 and 2>=2 and 3>=2");
+        so(one, 0, 0, "not 1>2 and not 2>2 and 3>2");
+        so(one, 0, 0, "0-1<0 and 0-1<=0 and 0>=0-1 and 0>0-1");
+        so(one, 0, 0, "2+3*4=14 and 2*3+4=10 and 2+3*4-5=9");
+        so(one, 0, 0, "20-5-3=12 and 100/5/2=10 and 17%10%4=3 and 100/7*7=98 and 7*100/7=100");
+    }
+
+    void promise09AndOrNot() {
+        says("TEST: PART { or PART }. PART: FACT { and FACT }. FACT: not FACT | [ TEST ]");
+        Maker one = at("hill 9;runner 1 0;ware 1 1 1");
+        for (int bits = 0; bits < 8; bits++) {
+            boolean a = (bits & 1) != 0;
+            boolean b = (bits & 2) != 0;
+            boolean c = (bits & 4) != 0;
+            String x = a ? "1=1" : "1=2";
+            String y = b ? "2>1" : "1>2";
+            String z = c ? "1<2" : "2<1";
+            is(one, x + " or " + y + " and " + z, a || b && c);
+            is(one, x + " and " + y + " or " + z, a && b || c);
+            is(one, "[" + x + " or " + y + "] and " + z, (a || b) && c);
+            is(one, x + " and [" + y + " or " + z + "]", a && (b || c));
+            is(one, "not " + x + " and " + y + " or " + z, !a && b || c);
+            is(one, "not " + x + " or " + y + " and not " + z, !a || b && !c);
+            is(one, "not [" + x + " or " + y + "] and " + z, !(a || b) && c);
+            is(one, "not not " + x + " and not [not " + y + " or " + z + "]", a && !(!b || c));
+            is(one, x + " or " + y + " or " + z, a || b || c);
+            is(one, x + " and " + y + " and " + z, a && b && c);
+        }
+        // As much as can wait at once: nine times an or, an and, and a bracket, then a SIGN, a + and a *; 60 in all.
+        String deep = "1=2 or 1=1 and [".repeat(9) + "[1=%d+1*1]" + "]".repeat(9);
+        HeadHill so = by(one.make(), "run 1 if " + String.format(deep, 0));
+        due("all of it", so.day(), 1);
+        HeadHill not = by(one.make(), "run 1 if " + String.format(deep, 1));
+        due("none of it", not.day(), 0);
+        due("both were told", so.count(3) + not.count(3), 2);
+    }
+
+    private void is(Maker maker, String test, boolean want) {
+        HeadHill x = by(maker.make(), "run 1 if " + test);
+        due("'" + test + "'", x.count(3) == 1 ? x.day() : -9, want ? 1 : 0);
+    }
+
     void promise09WareIsThere() {
         says("A WARE is there, if the rest of DAY by EVERY is 0.");
         HeadHill x = Checks.at("hill 60;ware 1 1 1;ware 1 1 2;ware 1 1 8;ware 1 1 9");
@@ -226,12 +274,13 @@ final class WordEdges extends Edges {
         due("5, 5/2 - 2 and 5/10", firstTo("hill 9;runner 1 0;runner 2 2;runner 10 0;ware 5 1 1"), 1);
         due("6/3 - 1 and 6/6", firstTo("hill 9;runner 1 1;runner 3 1;runner 6 0;ware 6 1 1"), 1);
         due("6/6 and 6/3 - 1", firstTo("hill 9;runner 1 1;runner 6 0;runner 3 1;ware 6 1 1"), 1);
-        due("the last alone is at least", firstTo("hill 9;runner 7 3;runner 7 3;runner 7 3;runner 7 4;ware 9 1 1"), 3);
+        due("the last alone", firstTo("hill 9;runner 7 3;runner 7 3;runner 7 3;runner 7 4;ware 9 1 1"), 3);
     }
 
     void promise09FirstClause() {
-        says("A DAY: (1) RUNNERS by numbers, each runs for that WARE, of those that are there, for which the SUM of the RULE IN"
-                + " FORCE's first CLAUSE without a TEST, or whose TEST holds (0 without), is greatest,");
+        says("A DAY: (1) RUNNERS by numbers, each runs for that WARE, of those that are there, for which the SUM"
+                + " of the RULE IN FORCE's first CLAUSE without a TEST, or whose TEST holds (0 without), is"
+                + " greatest,");
         String town = "hill 9;runner 1 0;ware 1 5 1;ware 1 7 1;ware 1 9 2";
         due("the first without a test", gotBy(town, 0, "run worth;run 100 if ware=0"), 4);
         due("the first whose test holds", gotBy(town, 0, "run 9 if ware=7;run worth if ware<2;run 1;run 99"), 2);
