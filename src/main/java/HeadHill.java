@@ -1085,7 +1085,7 @@ public final class HeadHill {
             if (hill.runners < 2) {
                 return 0;
             }
-            int most = Integer.MIN_VALUE;
+            int most = LEAST_PURSE;
             for (int other = 0; other < hill.runners; other++) {
                 if (other != r) {
                     most = Math.max(most, m.purse[other]);
